@@ -1,0 +1,102 @@
+import java.nio.charset.StandardCharsets;
+import java.util.NoSuchElementException;
+
+/** What the tests share: putting texts on the tape, and calls compared by answer or by exception. */
+final class Told {
+    interface Call {
+        long answer();
+    }
+
+    interface Deed {
+        void happen();
+    }
+
+    /** Answers behind every real one, that stand for the exceptions. */
+    static final long NO_SUCH = 1L << 40;
+    static final long ILLEGAL = 1L << 41;
+    static final long OTHER = 1L << 42;
+
+    private static int checks = 0;
+    private static int wrong = 0;
+
+    private Told() {
+    }
+
+    static long outcome(Call call) {
+        try {
+            return call.answer();
+        } catch (NoSuchElementException e) {
+            return e.getClass() == NoSuchElementException.class ? NO_SUCH : OTHER;
+        } catch (IllegalArgumentException e) {
+            return e.getClass() == IllegalArgumentException.class ? ILLEGAL : OTHER;
+        } catch (RuntimeException e) {
+            return OTHER;
+        }
+    }
+
+    static long flag(boolean answer) {
+        return answer ? 1 : 0;
+    }
+
+    static String shown(long outcome) {
+        if (outcome == NO_SUCH) {
+            return "throws.NoSuchElementException";
+        }
+        if (outcome == ILLEGAL) {
+            return "throws.IllegalArgumentException";
+        }
+        return outcome == OTHER ? "throws.another exception" : Long.toString(outcome);
+    }
+
+    static void due(String what, long want, Call call) {
+        long got = outcome(call);
+        checks++;
+        if (got != want) {
+            wrong++;
+            System.out.println(what + " answered " + shown(got) + ", due is " + shown(want));
+        }
+    }
+
+    static byte[] padded(byte[] text) {
+        return java.util.Arrays.copyOf(text, (text.length + 19) / 20 * 20);
+    }
+
+    static byte[] bytes(String text) {
+        return text.getBytes(StandardCharsets.ISO_8859_1);
+    }
+
+    static int number(byte[] text, int at) {
+        return (text[at] & 255) << 24 | (text[at + 1] & 255) << 16 | (text[at + 2] & 255) << 8 | text[at + 3] & 255;
+    }
+
+    static void feed(WolfDeeds deeds, byte[] text) {
+        byte[] whole = padded(text);
+        for (int i = 0; i < whole.length; i += 20) {
+            deeds.feed(number(whole, i), number(whole, i + 4), number(whole, i + 8), number(whole, i + 12), number(whole, i + 16));
+        }
+    }
+
+    /** Feeds a text to an object, lets it be read, and answers what winter() does. */
+    static int read(WolfDeeds deeds, String text) {
+        feed(deeds, bytes(text));
+        return deeds.winter(text.length());
+    }
+
+    /** A new object with a WINTER that must be without FAULT. */
+    static WolfDeeds winter(String text) {
+        WolfDeeds deeds = new WolfDeeds();
+        due("winter of " + text, 0, () -> read(deeds, text));
+        return deeds;
+    }
+
+    static boolean isClean() {
+        return wrong == 0;
+    }
+
+    static void end() {
+        System.out.println(checks + " checks, " + wrong + " wrong");
+        if (wrong != 0) {
+            System.exit(1);
+        }
+    }
+}
