@@ -98,21 +98,21 @@ public final class FuzzTest {
     private List<String> winter() {
         List<String> tokens = new ArrayList<>();
         packs = below(12) == 0 ? 0 : 1 + below(4);
-        places = packs == 0 ? 0 : upTo(9);
+        places = packs == 0 ? 0 : below(15) == 0 ? 0 : 1 + upTo(8);
         List<Integer> houses = new ArrayList<>();
         boolean hungry = below(3) == 0;
         for (int i = 0; i < packs; i++) {
             line(tokens, "pack", hungry ? upTo(20) : below(4), upTo(99));
         }
         for (int i = 0; i < places; i++) {
-            int kind = below(2) == 0 ? 0 : below(4);
+            int kind = i == 0 && below(9) > 0 || below(2) == 0 ? 0 : below(4);
             line(tokens, new String[] {"house", "field", "edge", "wood"}[kind], below(packs));
             if (kind == 0) {
                 houses.add(i);
             }
         }
         paths(tokens);
-        people = houses.isEmpty() ? 0 : upTo(6);
+        people = houses.isEmpty() ? 0 : below(15) == 0 ? 0 : 1 + upTo(5);
         for (int i = 0; i < people; i++) {
             String kind = new String[] {"squire", "doctor", "widow", "child"}[below(4)];
             line(tokens, kind, houses.get(below(houses.size())), upTo(99), upTo(below(2) == 0 ? 99 : 9));
@@ -191,23 +191,75 @@ public final class FuzzTest {
         }
     }
 
+    /** Lines told so often that they stand at the document's limits, or one above. */
+    private String crowded() {
+        StringBuilder text = new StringBuilder("pack 1 1;house 0;house 0;");
+        switch (below(7)) {
+            case 0 -> text.append("pack 0 0;".repeat(2 + below(3)));
+            case 1 -> text.append("wood 0;".repeat(6 + below(3)));
+            case 2 -> {
+                text.append("edge 0;".repeat(5));
+                for (int i = 0, paths = 13 + below(3); i < 7; i++) {
+                    for (int k = 0; k < i && paths > 0; k++, paths--) {
+                        text.append("path ").append(i).append(' ').append(k).append(" 1;");
+                    }
+                }
+            }
+            case 3 -> text.append("child 1 9 9;".repeat(5 + below(3)));
+            case 4 -> text.append("snow").append(" 7".repeat(9 + below(4))).append(';');
+            case 5 -> text.append(below(2) == 0 ? "right " : "rent ").append("not ".repeat(5 + below(4))).append("(not 1);");
+            default -> {
+                int within = 4 + below(4);
+                String[] inner = {"1", "day", "lambs", "not 1", "+", ")", "", "or", "99999", "(1)"};
+                text.append(below(2) == 0 ? "right " : "rent ").append("(".repeat(within)).append(inner[below(inner.length)])
+                    .append(")".repeat(within)).append(';');
+            }
+        }
+        return text.toString();
+    }
+
+    private void runCrowded() {
+        String text = crowded();
+        if (below(4) == 0) {
+            int at = below(text.length());
+            text = text.substring(0, at) + ANY[below(ANY.length)] + text.substring(at);
+        }
+        story.setLength(0);
+        read(text);
+    }
+
     private void runFaulty() {
         List<String> tokens = winter();
         for (int i = 0; i < 100; i++) {
             List<String> spoilt = new ArrayList<>(tokens);
             for (int k = below(3); k >= 0 && !spoilt.isEmpty(); k--) {
                 int at = below(spoilt.size());
-                switch (below(4)) {
+                switch (below(9)) {
                     case 0 -> spoilt.remove(at);
                     case 1 -> spoilt.add(at, ANY[below(ANY.length)]);
                     case 2 -> spoilt.set(at, ANY[below(ANY.length)]);
-                    default -> spoilt.add(at, spoilt.get(below(spoilt.size())));
+                    case 3 -> spoilt.add(at, spoilt.get(below(spoilt.size())));
+                    default -> spoil(spoilt, at);
                 }
             }
             String text = joined(spoilt);
             text = text.substring(0, Math.min(text.length(), below(5) == 0 ? below(701) : 700));
             story.setLength(0);
             read(text);
+            if (i % 4 == 0) {
+                runCrowded();
+            }
+        }
+    }
+
+    /** Puts another TOKEN of the like kind in the place of one. */
+    private void spoil(List<String> tokens, int at) {
+        for (int i = 0; i < tokens.size(); i++) {
+            String token = tokens.get((at + i) % tokens.size());
+            if (Character.isDigit(token.charAt(0))) {
+                tokens.set((at + i) % tokens.size(), Integer.toString(below(4) == 0 ? below(12) : below(120)));
+                return;
+            }
         }
     }
 
