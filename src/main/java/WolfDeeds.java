@@ -780,9 +780,9 @@ public final class WolfDeeds {
         }
     }
 
-    private static void copyRow(int[] from, int start, int[] to, int at, int many) {
+    private static void copyRow(int[] from, int start, int[] to, int target, int many) {
         for (int i = 0; i < many; i++) {
-            put(to, at + i, at(from, start + i));
+            put(to, target + i, at(from, start + i));
         }
     }
 

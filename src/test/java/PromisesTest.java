@@ -205,6 +205,14 @@ public final class PromisesTest {
         fault("rent 1;right 1;rent", 5, 15);
         fault("right 1;rent 1;right", 5, 15);
         fault("right 1&1;", 1, 7);
+        fault("right az;", 3, 6);
+        fault("right z;", 3, 6);
+        fault("right a{;", 3, 6);
+        fault("right {;", 1, 6);
+        fault("right `;", 1, 6);
+        fault("right /;", 1, 6);
+        fault("right :;", 1, 6);
+        fault("right 9:;", 1, 7);
     }
 
     private static void rentIs(String expr, int due) {
@@ -250,6 +258,15 @@ public final class PromisesTest {
             int asked = what;
             due("5: count(" + what + ")", dues[what], () -> x.count(asked));
         }
+        x.gather(0, 0);
+        x.lamp(0, false);
+        x.track(0, 72);
+        Told.read(x, ";");
+        Told.read(x, ";");
+        Told.read(x, ";");
+        due("5: texts refused", 3, () -> x.count(10));
+        due("5: acts refused", 2, () -> x.count(11));
+        due("5: tracks refused", 1, () -> x.count(12));
         noSuch("5: below", () -> x.count(-1));
         noSuch("5: above", () -> x.count(13));
         x.days(5);
@@ -386,6 +403,10 @@ public final class PromisesTest {
         due("13: 100", NO, () -> x.gather(0, 100));
         due("13: status", 6, () -> x.count(11));
         due("13: some", 95, () -> x.gather(0, 5));
+        WolfDeeds y = Told.winter("pack 0 98;house 0;squire 0 99 0;");
+        due("12: 99 lambs", 0, () -> y.pay(0, 0, 99));
+        due("12: all for the pack", 197, () -> y.pack(0, 1));
+        due("13: 99 wood", 99, () -> y.gather(0, 99));
         due("13: 99 at most", 99, () -> x.gather(0, 99));
     }
 
