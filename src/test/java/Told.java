@@ -16,6 +16,8 @@ final class Told {
     static final long ILLEGAL = 1L << 41;
     static final long OTHER = 1L << 42;
 
+    private static final int NONE = -1;
+
     private static int checks = 0;
     private static int wrong = 0;
 
@@ -55,6 +57,69 @@ final class Told {
             wrong++;
             System.out.println(what + " answered " + shown(got) + ", due is " + shown(want));
         }
+    }
+
+    static void same(String what, String want, String got) {
+        due(what + ": is\n" + got + "\nand was\n" + want, 1, () -> flag(want.equals(got)));
+    }
+
+    /** A call that must answer so and change nothing that can be seen, STATUS too. */
+    static void unchanged(String what, WolfDeeds x, long want, Call call) {
+        String before = portrait(x) + status(x, NONE);
+        due(what, want, call);
+        same(what + " changes nothing", before, portrait(x) + status(x, NONE));
+    }
+
+    static void noSuch(String what, WolfDeeds x, Call call) {
+        unchanged(what, x, NO_SUCH, call);
+    }
+
+    static void illegal(String what, WolfDeeds x, Call call) {
+        unchanged(what, x, ILLEGAL, call);
+    }
+
+    /** A refused call: it must answer so, count in one STATUS, and change nothing else. */
+    static void refused(String what, WolfDeeds x, int number, long want, Call call) {
+        String before = portrait(x) + status(x, number);
+        due(what, want, call);
+        same(what + " changes STATUS " + number + " alone", before, portrait(x) + status(x, NONE));
+    }
+
+    /** STATUS, with one more in one of its numbers. */
+    private static String status(WolfDeeds x, int more) {
+        StringBuilder text = new StringBuilder("status");
+        for (int i = 0; i < 3; i++) {
+            text.append(' ').append(x.count(10 + i) + (i == more ? 1 : 0));
+        }
+        return text.toString();
+    }
+
+    /** What can be seen of an object without changing it, but for STATUS, the tape and the FAULT. */
+    static String portrait(WolfDeeds x) {
+        StringBuilder text = new StringBuilder("counts");
+        for (int what = 0; what < 9; what++) {
+            text.append(' ').append(x.count(what));
+        }
+        for (int pack = 0; pack < x.count(0); pack++) {
+            text.append("\npack");
+            for (int what = 0; what < 5; what++) {
+                text.append(' ').append(x.pack(pack, what));
+            }
+        }
+        for (int place = 0; place < x.count(1); place++) {
+            text.append("\nplace");
+            for (int what = 0; what < 4; what++) {
+                text.append(' ').append(x.place(place, what));
+            }
+        }
+        for (int person = 0; person < x.count(3); person++) {
+            text.append("\nperson");
+            for (int what = 0; what < 9; what++) {
+                text.append(' ').append(x.person(person, what));
+            }
+            text.append(" alibi ").append(x.alibi(person));
+        }
+        return text.append("\nclosed ").append(x.closed()).append('\n').toString();
     }
 
     static byte[] padded(byte[] text) {
