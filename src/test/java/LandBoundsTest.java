@@ -83,8 +83,11 @@ public final class LandBoundsTest {
         due("6: no PEOPLE", 0, () -> x.pack(0, 4));
         due("6: HUNGER 20", 20, () -> x.pack(0, 0));
         due("6: STORE 99", 99, () -> x.pack(0, 1));
-        due("7: eight PATHS", 8, () -> x.place(0, 2));
-        due("7: one PATH", 1, () -> x.place(8, 2));
+        long[] paths = {8, 2, 3, 3, 3, 3, 3, 2, 1};
+        for (int place = 0; place < 9; place++) {
+            int one = place;
+            due("7: PATHS of PLACE " + place, paths[place], () -> x.place(one, 2));
+        }
         due("7: everybody's HOME", 63, () -> x.place(8, 3));
         due("7: nobody's", 0, () -> x.place(0, 3));
         due("9: over the middle", 18, () -> x.far(1, 8));
@@ -263,6 +266,12 @@ public final class LandBoundsTest {
         rentIs("not 1 and 0", 0);
         rentIs("not 2=3", 1);
         rentIs("not 1<0+2", 0);
+        rentIs("(0 or 0)+5", 5);
+        rentIs("(1 and 0)+5", 5);
+        rentIs("(3<2)+5", 5);
+        rentIs("(2=3)+5", 5);
+        rentIs("(not 3)+5", 5);
+        rentIs("(3 or 4)+(3 and 4)+(3<4)+(4=4)+(not 0)", 5);
         rentIs("1+1<1*3", 1);
         rentIs("9-4-3", 2);
         rentIs("9-(4-3)", 8);
@@ -568,6 +577,8 @@ public final class LandBoundsTest {
         Told.refused("12: he has none", x, 1, NO, () -> x.pay(1, 0, 1));
         due("12: one", 98, () -> x.pay(0, 0, 1));
         due("12: to his", 10, () -> x.pack(0, 1));
+        due("12: who OWES nothing OWES nothing", 0, () -> x.person(0, 4));
+        due("12: nor by paying another's", 0, () -> x.person(1, 4));
         Told.refused("12: 99 of 98", x, 1, NO, () -> x.pay(0, 0, 99));
         x.undo();
         due("12: 99", 0, () -> x.pay(0, 0, 99));

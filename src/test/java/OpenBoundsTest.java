@@ -86,6 +86,8 @@ public final class OpenBoundsTest {
         due("39: one of them in one hour", 1, y::closed);
         WolfDeeds z = Told.winter(nine);
         due("39: without RIGHT", 0, z::closed);
+        WolfDeeds w = Told.winter("pack 0 0;house 0;house 0;child 1 0 0;right 0;");
+        due("39: one's HOME alone", 1, w::closed);
     }
 
     // ---- 40: A BREACH
@@ -123,6 +125,7 @@ public final class OpenBoundsTest {
         due("40: the first in hour 5", 1, () -> x.breach(0, 3, 3));
         due("40: the first in hour 6", NO, () -> x.breach(0, 3, 4));
         due("40: back to another's HOME", 0, () -> x.breach(1, 0, 13));
+        due("40: from his own, not from PLACE 0", 1, () -> x.breach(1, 1, 16));
         WolfDeeds y = Told.winter(row + "right hour<3 or hour=20;");
         due("40: HOURS 20, 23", 2, () -> y.breach(0, 3, 18));
         WolfDeeds z = Told.winter(row + "right hour<6 or hour=23;");
@@ -147,6 +150,9 @@ public final class OpenBoundsTest {
         WolfDeeds z = Told.winter("pack 0 0;house 0;field 0;wood 0;wood 0;field 0;path 0 1 2;path 1 3 1;path 1 2 1;path 2 4 1;path 3 4 1;child 0 0 0;"
             + "right place=1;");
         due("40: the second step by the least", 2, () -> z.breach(0, 4, 0));
+        WolfDeeds nine = Told.winter("pack 0 0;" + "house 0;".repeat(9) + "path 0 8 3;path 1 2 3;child 1 0 0;");
+        due("40: by the PATHS of this PLACE", 2, () -> nine.breach(0, 2, 20));
+        due("40: not by another's", -2, () -> nine.breach(0, 8, 20));
     }
 
     // ---- 41, 42: THE FIRST COLD, THE FIRST THIN
@@ -444,6 +450,15 @@ public final class OpenBoundsTest {
         due("9: no PATH of another winter", NO, () -> x.far(1, 2));
         due("10: no RIGHT of another winter", 0, () -> Told.flag(x.right(0, 1, 5)));
         due("8: no RENT of another winter", 1, () -> x.person(0, 8));
+        WolfDeeds y = new WolfDeeds();
+        Told.read(y, SMALL + "rent not 1+2;right not 1+2;");
+        Told.read(y, SMALL + "rent not 3;right not 3;");
+        Told.read(y, SMALL + "rent 7;right 7;");
+        due("8: a shorter RENT", 7, () -> y.person(0, 8));
+        due("10: a shorter RIGHT", 1, () -> Told.flag(y.right(0, 1, 0)));
+        Told.read(y, SMALL + "rent 6;right 6;");
+        due("8: and the next one", 6, () -> y.person(0, 8));
+        due("10: and the next one", 1, () -> Told.flag(y.right(0, 1, 0)));
     }
 
     private static void manyCalls() {

@@ -141,10 +141,27 @@ public final class TextBoundsTest {
         Told.feed(x, Told.bytes("snow 9;"));
         due("3: what stood behind is gone", 0, () -> x.winter(7));
         due("3: the snow alone", 9, () -> x.count(5));
+        cutIs("pack 1 12;", 8, 1, 8);
+        cutIs("pack 1 100;", 9, 1, 9);
+        cutIs("pack 1 100;", 10, 2, 7);
+        cutIs("snow 1 2;pack", 11, 1, 9);
+        cutIs("packs 1 1;", 4, 1, 4);
+        cutIs("rent 12345;", 9, 1, 9);
+        cutIs("rent 1 and 1;", 9, 1, 7);
+        cutIs("pack 1        1;", 9, 1, 9);
+        cutIs("pack 1 1;   \n  x", 12, 0, -1);
         Told.feed(x, Told.bytes("@@@"));
         due("3: none of twenty", 0, () -> x.winter(0));
         due("3: the tape is empty then, too", 0, () -> x.count(9));
         due("3: snow without", 1, () -> x.count(5));
+    }
+
+    /** The first bytes end within a TOKEN: what stands behind them on the tape isn't read. */
+    private static void cutIs(String text, int n, int number, int place) {
+        WolfDeeds x = new WolfDeeds();
+        Told.feed(x, Told.bytes(text));
+        due("3: " + n + " bytes of " + text, number, () -> x.winter(n));
+        due("4: its place in " + n + " bytes of " + text, place, x::fault);
     }
 
     private static WolfDeeds busy() {

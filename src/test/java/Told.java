@@ -122,6 +122,28 @@ final class Told {
         return text.append("\nclosed ").append(x.closed()).append('\n').toString();
     }
 
+    /** Which numbers of a portrait are others in a later one: its row (of its name), its place there, from what to what. */
+    static String changes(String before, String after) {
+        String[] rows = before.split("\n");
+        String[] later = after.split("\n");
+        StringBuilder text = new StringBuilder();
+        String name = "";
+        int ofName = 0;
+        for (int i = 0; i < rows.length; i++) {
+            String[] old = rows[i].split(" ");
+            String[] now = later[i].split(" ");
+            ofName = old[0].equals(name) ? ofName + 1 : 0;
+            name = old[0];
+            for (int j = 1; j < old.length; j++) {
+                if (!old[j].equals(now[j])) {
+                    text.append(text.length() == 0 ? "" : ", ").append(name).append(ofName).append('.').append(j - 1).append(' ');
+                    text.append(old[j]).append('>').append(now[j]);
+                }
+            }
+        }
+        return text.toString();
+    }
+
     static byte[] padded(byte[] text) {
         return java.util.Arrays.copyOf(text, (text.length + 19) / 20 * 20);
     }

@@ -341,6 +341,16 @@ public final class TracksBoundsTest {
             int days = n;
             due("37: THIN by HUNGER of then, " + n, thin[n], () -> y.winters(23, days, 1));
         }
+        // Of two PACKS seed 1 draws (PACK, turn) 0 0, 1 2, 1 0, and seed 2 draws 1 0, 1 2, 1 1, 1 0.
+        WolfDeeds noPlaces = Told.winter("pack 0 0;pack 0 0;");
+        long[][] thinDays = {{0, 1, 2, 3}, {0, 1, 2, 2, 3}};
+        for (int seed = 1; seed <= 2; seed++) {
+            for (int n = 0; n < thinDays[seed - 1].length; n++) {
+                int one = seed;
+                int days = n;
+                due("37: THIN without PLACES, " + n, thinDays[seed - 1][n], () -> noPlaces.winters(one, days, 1));
+            }
+        }
     }
 
     /** Seed 0 draws SNOW 0, 7, 5, 0 with one PACK; seed 3, of four, PACK 3 with turn 0, then PACK 2 with turn 1. */
